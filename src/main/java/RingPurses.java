@@ -794,12 +794,12 @@ public final class RingPurses {
         }
 
         private int lot(int which) {
-            return (mixed(mixed(seed, 25), which) >>> 1) % 100;
-        }
-
-        private static int mixed(int h, int it) {
-            int next = (h ^ it) * 1103515245 + 12345;
-            return next ^ (next >>> 15);
+            int h = seed;
+            for (int i = 0; i < 2; i++) {
+                h = (h ^ (i == 0 ? 25 : which)) * 1103515245 + 12345;
+                h = h ^ (h >>> 15);
+            }
+            return (h >>> 1) % 100;
         }
 
         void evenings(Ring ring, int n, int how) {
