@@ -201,7 +201,7 @@ public final class RingPurses {
         kept.note(ring);
         int joined = last ? 0 : house;
         ring.merge(joined, last ? house : house + 1);
-        return ring.has(joined) ? ring.purse[joined] : NONE;
+        return ring.purseOf(joined);
     }
 
     public boolean undo() {
@@ -872,6 +872,14 @@ public final class RingPurses {
             return houses >= MOST_HOUSES;
         }
 
+        int purseOf(int house) {
+            return has(house) ? purse[house] : 0;
+        }
+
+        int paidBy(int house) {
+            return has(house) ? paid[house] : 0;
+        }
+
         int shown(int house) {
             if (house < 0 || house >= houses || house >= MOST_HOUSES) return 0;
             return purse[house] - hidden[house];
@@ -879,7 +887,7 @@ public final class RingPurses {
 
         int total() {
             int sum = 0;
-            for (int i = 0; has(i); i++) sum += purse[i];
+            for (int i = 0; i < MOST_HOUSES && has(i); i++) sum += purse[i];
             return sum;
         }
 
@@ -887,7 +895,7 @@ public final class RingPurses {
             if (!has(0)) return 0;
             int least = purse[0];
             int greatest = purse[0];
-            for (int i = 1; has(i); i++) {
+            for (int i = 1; i < MOST_HOUSES && has(i); i++) {
                 least = Math.min(least, purse[i]);
                 greatest = Math.max(greatest, purse[i]);
             }
@@ -916,19 +924,19 @@ public final class RingPurses {
             if (houses <= 0) return;
             if (how == ALIKE) {
                 int part = pot / houses;
-                for (int i = 0; has(i); i++) purse[i] += part;
+                for (int i = 0; i < MOST_HOUSES && has(i); i++) purse[i] += part;
                 pot -= part * houses;
             } else {
                 earn(how == TO_MOST ? mostPaying() : shares % houses, pot);
                 pot = 0;
             }
-            for (int i = 0; has(i); i++) since[i] = 0;
+            for (int i = 0; i < MOST_HOUSES && has(i); i++) since[i] = 0;
             shares++;
         }
 
         private int mostPaying() {
             int most = 0;
-            for (int i = 1; has(i); i++) {
+            for (int i = 1; i < MOST_HOUSES && has(i); i++) {
                 if (since[i] > since[most]) most = i;
             }
             return most;
@@ -946,7 +954,7 @@ public final class RingPurses {
 
         void remove(int at) {
             if (!has(at)) return;
-            for (int i = at + 1; has(i); i++) copyHouse(i, i - 1);
+            for (int i = at + 1; i < MOST_HOUSES && has(i); i++) copyHouse(i, i - 1);
             houses--;
         }
 
@@ -1056,7 +1064,7 @@ public final class RingPurses {
             for (int n = 0; n <= MOST_EVENINGS; n++) {
                 int from = n * WIDTH;
                 trail[from] = trial.pot;
-                for (int i = 0; trial.has(i); i++) trail[from + 1 + i] = trial.purse[i];
+                for (int i = 0; i < MOST_HOUSES && trial.has(i); i++) trail[from + 1 + i] = trial.purse[i];
                 rules.evening(trial, rules.sharing);
             }
         }
@@ -1111,7 +1119,7 @@ public final class RingPurses {
             for (int first = 0; first < now.houses; first++) {
                 trial.copy(now);
                 rules.payByTurns(trial, first);
-                better(trial.purse[house], 0, first);
+                better(trial.purseOf(house), 0, first);
             }
         }
 
@@ -1125,11 +1133,11 @@ public final class RingPurses {
         int lessPaid(Rules rules, Ring now, int a, int b, int x) {
             trial.copy(now);
             rules.evening(trial, rules.sharing);
-            int paid = trial.paid[b];
+            int paid = trial.paidBy(b);
             trial.copy(now);
-            trial.purse[a] -= x;
+            trial.earn(a, -x);
             rules.evening(trial, rules.sharing);
-            return paid - trial.paid[b];
+            return paid - trial.paidBy(b);
         }
 
         void findLeastGift(Rules rules, Ring now, int house) {
@@ -1161,14 +1169,14 @@ public final class RingPurses {
             trial.copy(now);
             rules.evenings(trial, n, rules.sharing);
             gain = NONE;
-            better(trial.purse[house], 0, UNTOLD);
+            better(trial.purseOf(house), 0, UNTOLD);
             for (int units = 1; units <= MOST_UNITS_GIVEN && units * unit <= now.shown(house); units++) {
                 for (int to = 0; to < now.houses; to++) {
                     if (to == house) continue;
                     trial.copy(now);
                     trial.move(house, to, units * unit);
                     rules.evenings(trial, n, rules.sharing);
-                    better(trial.purse[house], units * unit, to);
+                    better(trial.purseOf(house), units * unit, to);
                 }
             }
         }
@@ -1176,12 +1184,12 @@ public final class RingPurses {
         int rate(Rules rules, Ring now, int a, int b, int x, boolean most) {
             trial.copy(now);
             rules.evening(trial, rules.sharing);
-            int without = most ? trial.purse[b] : trial.purse[a];
+            int without = most ? trial.purseOf(b) : trial.purseOf(a);
             trial.copy(now);
             trial.move(a, b, x);
             rules.evening(trial, rules.sharing);
             trial.move(b, a, Math.min(x, trial.shown(b)));
-            return most ? trial.purse[b] - without : without - trial.purse[a];
+            return most ? trial.purseOf(b) - without : without - trial.purseOf(a);
         }
 
         int bestSite(Rules rules, Ring now, int purse) {
@@ -1222,7 +1230,7 @@ public final class RingPurses {
 
         private void follow(Rules rules, Ring now, int unit, int set) {
             trial.copy(now);
-            for (int i = 0; trial.has(i); i++) {
+            for (int i = 0; i < MOST_HOUSES && trial.has(i); i++) {
                 trial.hidden[i] = ((set >> i) & 1) == 1 ? Math.min(unit, trial.purse[i]) : 0;
             }
             rules.evening(trial, rules.sharing);
@@ -1286,7 +1294,7 @@ public final class RingPurses {
 
         void goThroughAgo(Rules rules, Ring now, int most) {
             lastKnown = now.houses - 1;
-            for (int i = 0; now.has(i); i++) lowest[i] = now.purse[i];
+            for (int i = 0; i < MOST_HOUSES && now.has(i); i++) lowest[i] = now.purse[i];
             goThrough(rules, now, most, 0, true);
         }
 
@@ -1295,10 +1303,10 @@ public final class RingPurses {
             least = most;
             greatest = 0;
             trial.copy(now);
-            for (int i = 0; trial.has(i); i++) trial.hidden[i] = 0;
+            for (int i = 0; i < MOST_HOUSES && trial.has(i); i++) trial.hidden[i] = 0;
             boolean more = startRows(most);
             for (int rows = 0; rows < MOST_ROWS && more; rows++) {
-                for (int i = 0; leavesLowest && trial.has(i); i++) known[i] = row[i] - lowest[i];
+                for (int i = 0; leavesLowest && i < MOST_HOUSES && trial.has(i); i++) known[i] = row[i] - lowest[i];
                 trial.pot = now.pot;
                 if (paysAsKnown(rules)) note(house);
                 more = stepRow(most);
@@ -1306,7 +1314,7 @@ public final class RingPurses {
         }
 
         private boolean startRows(int most) {
-            for (int i = 0; trial.has(i); i++) {
+            for (int i = 0; i < MOST_HOUSES && trial.has(i); i++) {
                 if (lowest[i] > most) return false;
                 row[i] = lowest[i];
             }
@@ -1314,7 +1322,7 @@ public final class RingPurses {
         }
 
         private boolean stepRow(int most) {
-            for (int i = 0; trial.has(i); i++) {
+            for (int i = 0; i < MOST_HOUSES && trial.has(i); i++) {
                 if (row[i] < most) {
                     row[i]++;
                     return true;
@@ -1325,8 +1333,8 @@ public final class RingPurses {
         }
 
         private boolean paysAsKnown(Rules rules) {
-            for (int i = 0; trial.has(i); i++) trial.purse[i] = row[i];
-            for (int i = 0; i <= lastKnown && trial.has(i); i++) {
+            for (int i = 0; i < MOST_HOUSES && trial.has(i); i++) trial.purse[i] = row[i];
+            for (int i = 0; i <= lastKnown && i < MOST_HOUSES && trial.has(i); i++) {
                 if (known[i] == NONE && !rules.turns) continue;
                 int paid = rules.wanted(trial, i);
                 if (known[i] != NONE && paid != known[i]) return false;
