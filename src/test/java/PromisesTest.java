@@ -471,6 +471,9 @@ final class PromisesTest {
         due("s + p of 301: s", x.becomes(1), -2);
         x = Check.of("house a 7;pays=1;shared alike 3;");
         due("the pot is looked at", x.becomes(0), 3);
+        x = Check.of(TEN.replace("1;", "900;") + "pays=1;shared round 30;");
+        due("a round of 300", x.becomes(0), 300);
+        due("a round of 300 from now on", x.becomes(1), 0);
         x = Check.of("house a 900;pays=if day<4 then 1 else 0;shared alike 30;house b 7;");
         due("from when the pot stays", x.becomes(1), 4);
     }
@@ -520,6 +523,7 @@ final class PromisesTest {
         due("soonest(least)", x.soonest(LEAST), -1);
         due("soonest(greatest)", x.soonest(GREATEST), 0);
         due("by none", Check.of("house a 3;house b 5;").soonest(1), -2);
+        due("behind 300", Check.of("house a 0;house b 300;pays=0;earns=if own<right then 1 else 0;").soonest(0), 0);
         // what the richest pays comes back to it by most; by round it makes another one the richest
         x = Check.of("house a 8;house b 6;house c 6;pays=if 7<own then 2 else 0;shared round 1;");
         due("alike then", x.even(1, 0), 1);

@@ -161,6 +161,7 @@ final class TextTest {
         told(deepest, 511);
         told("if " + deepest + "<" + deepest.replace('3', '4') + " then 7 else 8", 7);
         told("if " + deepest.replace('3', '4') + "<" + deepest + " then 7 else 8", 8);
+        told(many("if 2<1 then 0 else ", 4) + deepest, 511);
         told("0-5", 0);
         told("(0-7)/2+10", 7);
         told("7/(0-2)+10", 7);
