@@ -38,6 +38,7 @@ final class EdgesOfEveningTest {
         taking();
         building();
         burning();
+        numbersAsTheyStand();
         joiningInARing();
         joiningInAStreet();
         joiningBoth();
@@ -346,6 +347,17 @@ final class EdgesOfEveningTest {
         x.run(1);
         purses("what was paid ahead of that counts no more", x, 102, 2);
         due("nothing of it is left", x.count(5), 0);
+        int[] ten = {100, 100, 100, 100, 100, 100, 100, 100, 100, 100};
+        for (int rich = 0; rich < 10; rich++) {
+            ten[rich] = 150;
+            x = Check.of(houses(ten) + "pays=own-100;shared alike 1;");
+            x.run(1);
+            for (int i = 0; i < 10; i++) {
+                due("what " + i + " paid since", x.house(i, 6), 0);
+                due("what " + i + " paid", x.house(i, 5), i == rich ? 50 : 0);
+            }
+            ten[rich] = 100;
+        }
     }
 
     /** "round: all to the HOUSE with the number of times it was shared ahead, its rest by HOUSES". */
@@ -712,6 +724,43 @@ final class EdgesOfEveningTest {
         due("the one behind it hides", r.house(0, 1), 2);
         due("the last one", r.burn(0), 6);
         due("none", r.burn(0), -1);
+    }
+
+    private static RingPurses tenThatPaid() {
+        RingPurses r = Check.of(houses(200, 202, 204, 206, 208, 210, 212, 214, 216, 218) + "pays=own/2;");
+        r.run(1);
+        r.run(1);
+        for (int i = 0; i < 10; i++) r.hide(i, i);
+        return r;
+    }
+
+    private static void isThatOf(String when, RingPurses r, int now, RingPurses before, int then) {
+        for (int what : new int[] {0, 1, 5, 6}) due(when + ": house(" + now + ", " + what + ")", r.house(now, what), before.house(then, what));
+    }
+
+    /** "HOUSES are numbered from 0 on as they stand now": with what they have, hide and paid. */
+    private static void numbersAsTheyStand() {
+        RingPurses before = tenThatPaid();
+        for (int at = 0; at < 10; at++) {
+            RingPurses r = tenThatPaid();
+            r.burn(at);
+            for (int i = 0; i < 9; i++) isThatOf("burn " + at, r, i, before, i < at ? i : i + 1);
+            for (int what = 0; what <= 6; what++) due("none behind", r.house(9, what), -1);
+            r.build(at, 7);
+            for (int i = 0; i < 10; i++) {
+                if (i != at) isThatOf("build " + at, r, i, before, i);
+            }
+            for (int what : new int[] {1, 5, 6}) due("the new one", r.house(at, what), 0);
+            r.undo();
+            r.undo();
+            for (int i = 0; i < 10; i++) isThatOf("undone " + at, r, i, before, i);
+            r.join(at);
+            int gone = at == 9 ? 9 : at + 1;
+            int kept = at == 9 ? 0 : at;
+            for (int i = 0; i < 9; i++) {
+                if (i != kept) isThatOf("join " + at, r, i, before, i < gone ? i : i + 1);
+            }
+        }
     }
 
     /** "JOINED: a HOUSE and the one behind it (of the last one of a ring: HOUSE 0) are one, in the place of the one with the lesser number". */

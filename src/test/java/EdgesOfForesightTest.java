@@ -141,6 +141,12 @@ final class EdgesOfForesightTest {
         due("what is hidden stays so", x.becomes(0), 2);
         x.run(1);
         due("from between", x.becomes(1), 0);
+        x = Check.of(alike(9, 50) + houses(7).replace(" a ", " z ") + "pays=0;earns=if own<50 then 1 else 0;");
+        due("of ten", x.becomes(1), 43);
+        x.burn(9);
+        due("of nine: who is gone is not looked at", x.becomes(1), 0);
+        for (int i = 0; i < 9; i++) x.burn(0);
+        due("of none", x.becomes(1), 0);
     }
 
     // ---- APART, EVEN, SOONEST
@@ -328,6 +334,14 @@ final class EdgesOfForesightTest {
         due("the POT and the day as now", x.start(0, 1), 5);
         x.hide(0, 6);
         due("what is hidden is not paid", x.start(0, 1), 6);
+        x = Check.of(houses(9, 9, 9) + "pays=own;");
+        for (int house = 0; house < 3; house++) {
+            // questions ahead of it leave nothing behind
+            x.free(house, 1);
+            x.best(house, 1, 1, 1);
+            due("with nothing left from whichever", x.start(house, 0), 0);
+            due("nothing", x.start(house, 1), 0);
+        }
     }
 
     // ---- WEALTH

@@ -31,12 +31,15 @@ final class EdgesOfTextTest {
         sharedEvenings();
         seeds();
         whatIsNotTold();
+        whatTheTextsAheadTold();
         ofSeveralTheLastOne();
         places();
         tokensInAll();
         ofOnePlaceTheLeast();
         ifsOfALaw();
         parensWithinOneAnother();
+        whatStandsAheadOfParens();
+        behindALawThatEndsEarly();
         twice();
         twiceAndWrongOnlyIfThereIsNone();
         aFaultChangesNothingButTheTape();
@@ -397,6 +400,26 @@ final class EdgesOfTextTest {
             Check.of("seed 0;house a 50;house b 40;pays=lot/9;"));
     }
 
+    /** Nor does it stay told by any of the texts ahead, fine or not. */
+    private static void whatTheTextsAheadTold() {
+        String other = "house q 1;house r 2;street;turns;pays=if 1<2 then 3 else lot;earns=lot+2;shared round 3;seed 4;";
+        String three = "house a 50;house b 4;house c 7;";
+        for (String told : new String[] {three, three + "pays=lot/9;", three + "earns=lot/9;", three + "street;", "", "turns;" + three}) {
+            for (int ahead = 1; ahead <= 3; ahead++) {
+                RingPurses x = new RingPurses();
+                RingPurses y = new RingPurses();
+                for (int i = 0; i < ahead; i++) {
+                    Check.read(x, other);
+                    Check.read(y, other + "#");
+                }
+                due("read", Check.read(x, told), 0);
+                Whole.same("behind " + ahead + " texts: " + told, x, Check.of(told));
+                due("read", Check.read(y, told), 0);
+                Whole.same("behind " + ahead + " texts with a FAULT: " + told, y, Check.of(told));
+            }
+        }
+    }
+
     /** "Of several the last one." */
     private static void ofSeveralTheLastOne() {
         String two = "house a 900;house b 40;";
@@ -496,7 +519,55 @@ final class EdgesOfTextTest {
         Check.fault("pays=(" + five + "+(" + five + "));", 2, 6 + 11 + 1 + 5);
         Check.fault("pays=(" + five + ")*((" + five + "));", 2, 5 + 13 + 1 + 6);
         Check.fault("pays=(" + five + ");earns=((" + five + "));", 2, 19 + 6 + 6);
+        for (int n = 1; n <= 6; n++) {
+            for (String law : new String[] {"pays=", "earns=if ", "pays=if 1<", "earns=if 1<2 then "}) {
+                String ahead = law + "(".repeat(n) + "7" + ")".repeat(n - 1);
+                for (String behind : new String[] {";", "<", " then", " else", "(", "=", "own", ""}) {
+                    syntax(ahead + behind, ahead.length() + (behind.startsWith(" ") ? 1 : 0));
+                }
+            }
+            syntax("pays=" + "(".repeat(n) + "7" + ")".repeat(n + 1) + ";", 6 + 2 * n);
+            syntax("pays=" + "(".repeat(n) + ")", 5 + n);
+        }
         syntax("pays=(((((1)))));earns=((((((1))))));", -1);
+    }
+
+    private static final String DEEP = "1+2*(1+2*(1+2*(1+2*(1+2*(1+2*(1+2*3))))))";
+    private static final String DEEPER = "1+2*(1+2*(1+2*(1+2*(1+2*(1+2*(1+2*4))))))";
+
+    private static void tells(String law, int want) {
+        due(law, Check.of("house a 9999;pays=" + law + ";").house(0, 4), want);
+    }
+
+    /** Six ( with all that can stand ahead of each of them are still told rightly. */
+    private static void whatStandsAheadOfParens() {
+        tells(DEEP, 511);
+        tells(DEEPER, 639);
+        tells("if " + DEEP + "<" + DEEPER + " then 7 else 8", 7);
+        tells("if " + DEEPER + "<" + DEEP + " then 7 else 8", 8);
+        tells("if 2<1 then 0 else ".repeat(3) + "if " + DEEP + "<" + DEEPER + " then " + DEEPER + " else 8", 639);
+        tells("9-(8-(7-(6-(5-(4-(3-2))))))", 9 - (8 - (7 - (6 - (5 - (4 - (3 - 2)))))));
+        tells("99/(9/(8/(7/(6/(5/(4/2))))))", 49);
+        tells("((((((1+2)*3-4)*5-6)*7-8)*2-9)*2-1)*3", 1443);
+    }
+
+    /** A LAW in which a text ends leaves nothing behind for the next one. */
+    private static void behindALawThatEndsEarly() {
+        for (String early : new String[] {"pays=1+2*(", "pays=((((((", "pays=(1+(2*3", "earns=if (((1<2", "pays=7*(6-(5*#", "pays=(((((((1"}) {
+            RingPurses x = new RingPurses();
+            Check.read(x, early);
+            due("a law behind " + early, Check.read(x, "house a 99;pays=7;"), 0);
+            due("tells", x.house(0, 4), 7);
+            Check.read(x, early);
+            due("six ( behind " + early, Check.read(x, "house a 99;pays=((((((1+2))))));"), 0);
+            due("tells", x.house(0, 4), 3);
+            Check.read(x, early);
+            due("a ) too many behind " + early, Check.read(x, "pays=7);"), 1);
+            due("place", x.place(), 6);
+            for (int i = 0; i < 9; i++) Check.read(x, early);
+            due("the deepest behind many of " + early, Check.read(x, "house a 999;pays=" + DEEP + ";"), 0);
+            due("tells", x.house(0, 4), 511);
+        }
     }
 
     /** "TWICE: a NAME told already." */

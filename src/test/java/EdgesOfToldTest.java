@@ -16,12 +16,14 @@ final class EdgesOfToldTest {
         rowsThatAreTooMany();
         fitBounds();
         fitAsAllIsNow();
+        fitOfEachHouse();
         fitOfThoseThatAre();
         fitByTurnsAndAtOnce();
         spanBounds();
         spanOfAHouse();
         agoBounds();
         agoOfPurses();
+        agoOfTen();
         agoAsAllIsNow();
         holding();
         goingOn();
@@ -233,6 +235,24 @@ final class EdgesOfToldTest {
         due("never more", x.span(20, 3, 0), -2);
     }
 
+    /** The same of each HOUSE, to the last one of ten. */
+    private static void fitOfEachHouse() {
+        for (int n = 1; n <= 10; n++) {
+            int most = n <= 4 ? 4 : 2;
+            for (int i = 0; i < n; i++) {
+                int[] purses = new int[n];
+                java.util.Arrays.fill(purses, 30);
+                RingPurses x = Check.of(houses(purses) + "pays=own;earns=7;");
+                for (int j = 0; j < n; j++) x.hide(j, 30);
+                x.tell(i, 2);
+                int rows = 1;
+                for (int j = 1; j < n; j++) rows *= most + 1;
+                due("fits of " + n + ", " + i + " KNOWN", x.fits(most, 1), rows);
+                for (int j = 0; j < n; j++) due("span of " + j, x.span(most, 1, j), j == i ? 202 : most);
+            }
+        }
+    }
+
     /** "all that there are now pay what is KNOWN". */
     private static void fitOfThoseThatAre() {
         RingPurses x = zeros(3, "pays=own;");
@@ -270,7 +290,18 @@ final class EdgesOfToldTest {
         due("by turns: 1 has", x.span(2, 2, 1), 101);
         x = zeros(3, "turns;pays=pot;");
         x.tell(2, 0);
-        due("the POT of who pays ahead, known or not", x.fits(1, 1), 8);
+        due("an empty POT stays", x.fits(1, 1), 8);
+        x = zeros(3, "turns;pays=if pot<1 then own else 0;");
+        x.tell(2, 2);
+        // the POT as now for each row: those ahead of 2 have nothing, known or not
+        due("the POT of who pays ahead", x.fits(3, 1), 1);
+        due("2 has", x.span(3, 1, 2), 202);
+        due("0 has", x.span(3, 1, 0), 0);
+        x.tell(2, 0);
+        due("one of those ahead has something, or it has nothing", x.fits(3, 2), 64 - 3);
+        x.tell(0, 3);
+        x.tell(1, 0);
+        due("0 has 3, the others whatever", x.fits(3, 4), 16);
     }
 
     /** "100 * the least + the greatest; -2: too many, none; NONE: no such ones." */
@@ -344,6 +375,32 @@ final class EdgesOfToldTest {
         due("by turns", x.ago(20), 1);
         x = Check.of("turns;" + houses(0, 1) + "pays=left;");
         due("by turns, of 1", x.ago(20), 2);
+        x = Check.of("turns;" + houses(0, 3, 5) + "pays=if pot<1 then own else 0;");
+        // 0 had 1 .. 20; or it had nothing, and 1 would have paid all
+        due("by turns, the POT as now for each row", x.ago(20), 20);
+    }
+
+    /** The same to the last one of ten, and in whatever order they are asked. */
+    private static void agoOfTen() {
+        RingPurses x = Check.of(houses(0, 0, 0, 0, 0, 0, 0, 0, 0, 1) + "pays=own/2;");
+        due("to 1", x.ago(1), 1);
+        due("1 of 2 and 1 of 1", x.ago(2), 2);
+        due("all rows", x.fits(2, 0), 59049);
+        due("again", x.ago(2), 2);
+        x = Check.of(houses(0, 0, 0, 0, 0, 0, 0, 0, 0, 1) + "pays=own;");
+        due("none keeps 1", x.ago(2), 0);
+        x = Check.of(houses(0, 0, 0, 0, 0, 0, 0, 0, 0, 2) + "pays=0;");
+        due("2 is more than 1", x.ago(1), 0);
+        due("2 is 2", x.ago(2), 1);
+        due("all rows", x.fits(2, 0), 59049);
+        due("the least and the greatest", x.span(2, 0, 9), 2);
+        x.hide(9, 2);
+        due("hidden now", x.ago(2), 1);
+        for (int i = 0; i < 10; i++) {
+            int[] purses = new int[10];
+            purses[i] = 1;
+            due("the one that has 1 is " + i, Check.of(houses(purses) + "pays=own/2;").ago(2), 2);
+        }
     }
 
     /** "not one at which the POT is shared, EARNS not looked at, nothing hidden, the POT and the evening as now". */
