@@ -60,6 +60,13 @@ final class Check {
         return x;
     }
 
+    /** A text that tells houses a, b and on with these purses. */
+    static String houses(int... purses) {
+        StringBuilder s = new StringBuilder();
+        for (int i = 0; i < purses.length; i++) s.append("house ").append((char) ('a' + i)).append(' ').append(purses[i]).append(';');
+        return s.toString();
+    }
+
     /** A text that is read with this fault at this place. */
     static void fault(String text, int fault, int place) {
         RingPurses x = new RingPurses();

@@ -61,17 +61,11 @@ final class EdgesOfEveningTest {
         for (int i = 0; i < want.length; i++) due(when + ": purse of " + i, x.house(i, 0), want[i]);
     }
 
-    private static String houses(int... purses) {
-        StringBuilder s = new StringBuilder();
-        for (int i = 0; i < purses.length; i++) s.append("house ").append((char) ('a' + i)).append(' ').append(purses[i]).append(';');
-        return s.toString();
-    }
-
     /** HOUSES with purses 1001, 1002 and on: by what is looked at, less 1000, it can be told whose it is. */
     private static String numbered(int n) {
         int[] purses = new int[n];
         for (int i = 0; i < n; i++) purses[i] = 1001 + i;
-        return houses(purses);
+        return Check.houses(purses);
     }
 
     private static void seesIs(String text, String sees, int... want) {
@@ -79,7 +73,10 @@ final class EdgesOfEveningTest {
         for (int i = 0; i < want.length; i++) due(sees + " of " + i + " in " + text, x.house(i, 4), want[i]);
     }
 
-    /** "LEFT of a HOUSE: SHOWN of the one ahead of it, RIGHT: of the one behind it; in a ring of one ...: its own", "the last one beside the first". */
+    /**
+     * "LEFT of a HOUSE: SHOWN of the one ahead of it, RIGHT: of the one behind it; in a ring of one ...: its own",
+     * "the last one beside the first".
+     */
     private static void neighboursOfARing() {
         for (int n = 1; n <= 10; n++) {
             int[] left = new int[n];
@@ -133,14 +130,14 @@ final class EdgesOfEveningTest {
 
     /** "GAP: how far LEFT and RIGHT are apart." */
     private static void gaps() {
-        gapsAre(houses(9999), 0);
-        gapsAre("street;" + houses(9999), 0);
-        gapsAre(houses(9999, 0), 0, 0);
-        gapsAre("street;" + houses(9999, 0), 9999, 9999);
-        gapsAre(houses(9999, 0, 5), 5, 9994, 9999);
-        gapsAre("street;" + houses(9999, 0, 5), 9999, 9994, 5);
-        gapsAre(houses(3, 3, 4, 3), 0, 1, 0, 1);
-        RingPurses x = Check.of(houses(5, 7, 5));
+        gapsAre(Check.houses(9999), 0);
+        gapsAre("street;" + Check.houses(9999), 0);
+        gapsAre(Check.houses(9999, 0), 0, 0);
+        gapsAre("street;" + Check.houses(9999, 0), 9999, 9999);
+        gapsAre(Check.houses(9999, 0, 5), 5, 9994, 9999);
+        gapsAre("street;" + Check.houses(9999, 0, 5), 9999, 9994, 5);
+        gapsAre(Check.houses(3, 3, 4, 3), 0, 1, 0, 1);
+        RingPurses x = Check.of(Check.houses(5, 7, 5));
         x.hide(2, 1);
         due("by what is SHOWN", x.house(1, 3), 1);
         x.hide(0, 1);
@@ -150,7 +147,7 @@ final class EdgesOfEveningTest {
     /** "SHOWN: what a HOUSE has, less what it hides." */
     private static void shown() {
         for (int hidden : new int[] {0, 1, 9, 10}) {
-            RingPurses x = Check.of(houses(10, 20) + "pays=left;");
+            RingPurses x = Check.of(Check.houses(10, 20) + "pays=left;");
             x.hide(0, hidden);
             due("has", x.house(0, 0), 10);
             due("hides", x.house(0, 1), hidden);
@@ -167,7 +164,7 @@ final class EdgesOfEveningTest {
         int[] shown = {0, 1, 7};
         for (int s = 0; s < 3; s++) {
             for (int i = 0; i < tells.length; i++) {
-                RingPurses x = Check.of(houses(10) + "pays=" + tells[i] + ";");
+                RingPurses x = Check.of(Check.houses(10) + "pays=" + tells[i] + ";");
                 x.hide(0, 10 - shown[s]);
                 due("WANTED of " + tells[i] + " by " + shown[s], x.house(0, 4), want[s][i]);
                 x.run(1);
@@ -184,12 +181,12 @@ final class EdgesOfEveningTest {
         int[] want = {0, 0, 0, 1, 998, 999, 999, 999, 999, 0, 999};
         for (int i = 0; i < tells.length; i++) {
             for (int purse : new int[] {0, 9999}) {
-                RingPurses x = Check.of(houses(purse) + "pays=0;earns=" + tells[i] + ";");
+                RingPurses x = Check.of(Check.houses(purse) + "pays=0;earns=" + tells[i] + ";");
                 x.run(1);
                 due("EARNS of " + tells[i], x.house(0, 0) - purse, want[i]);
             }
         }
-        RingPurses x = Check.of(houses(4) + "pays=own;earns=7;");
+        RingPurses x = Check.of(Check.houses(4) + "pays=own;earns=7;");
         x.hide(0, 4);
         x.run(1);
         due("of what comes it pays the same evening", x.house(0, 5), 7);
@@ -198,22 +195,25 @@ final class EdgesOfEveningTest {
 
     /** "one by one by numbers, each as all is then". */
     private static void earnsOneByOne() {
-        RingPurses x = Check.of(houses(1, 2, 4) + "pays=0;earns=left;");
+        RingPurses x = Check.of(Check.houses(1, 2, 4) + "pays=0;earns=left;");
         x.run(1);
         // 4 more; 5 more; 7 more
         purses("of the one ahead", x, 5, 7, 11);
-        x = Check.of(houses(1, 2, 4) + "pays=0;earns=right;");
+        x = Check.of(Check.houses(1, 2, 4) + "pays=0;earns=right;");
         x.run(1);
         // 2 more; 4 more; 3 more, of what the first has by then
         purses("of the one behind", x, 3, 6, 7);
-        x = Check.of("street;" + houses(1, 2, 4) + "pays=0;earns=right;");
+        x = Check.of("street;" + Check.houses(1, 2, 4) + "pays=0;earns=right;");
         x.run(1);
         purses("at the end of a street", x, 3, 6, 8);
     }
 
-    /** "by turns one by one by numbers, each by what is SHOWN then; else all by what was SHOWN ahead of all"; "pot: ... (by turns with what came this evening)". */
+    /**
+     * "by turns one by one by numbers, each by what is SHOWN then; else all by what was SHOWN ahead of all";
+     * "pot: ... (by turns with what came this evening)".
+     */
     private static void byTurnsAndAtOnce() {
-        String right = houses(2, 4, 6) + "pays=right/2;";
+        String right = Check.houses(2, 4, 6) + "pays=right/2;";
         RingPurses x = Check.of(right);
         x.run(1);
         purses("at once", x, 0, 1, 5);
@@ -221,7 +221,7 @@ final class EdgesOfEveningTest {
         x.run(1);
         // the last one looks at the first, who has nothing by then
         purses("by turns", x, 0, 1, 6);
-        String pot = houses(50, 50, 50) + "pays=pot+1;shared alike 30;";
+        String pot = Check.houses(50, 50, 50) + "pays=pot+1;shared alike 30;";
         x = Check.of(pot);
         x.run(1);
         purses("POT at once", x, 49, 49, 49);
@@ -239,7 +239,7 @@ final class EdgesOfEveningTest {
         String[] hows = {"alike", "most", "round"};
         for (int every : new int[] {1, 2, 3, 7, 29, 30}) {
             for (String how : hows) {
-                RingPurses x = Check.of(houses(5) + "shared " + how + " " + every + ";");
+                RingPurses x = Check.of(Check.houses(5) + "shared " + how + " " + every + ";");
                 due("not on evening 0", x.count(8), 0);
                 for (int n = 1; n <= 2 * every + 1; n++) {
                     due("the next evening", x.run(1), n);
@@ -249,7 +249,7 @@ final class EdgesOfEveningTest {
                 due("shared behind many", x.count(8), (2 * every + 301) / every);
             }
         }
-        RingPurses x = Check.of(houses(90) + "pays=1;shared alike 3;");
+        RingPurses x = Check.of(Check.houses(90) + "pays=1;shared alike 3;");
         x.run(2);
         due("the POT one ahead", x.count(5), 2);
         x.run(1);
@@ -261,7 +261,7 @@ final class EdgesOfEveningTest {
     private static void alikeIs(int[] pays, int each, int left) {
         int[] purses = new int[pays.length];
         for (int i = 0; i < pays.length; i++) purses[i] = 100 + pays[i];
-        RingPurses x = Check.of(houses(purses) + "pays=own-100;shared alike 1;");
+        RingPurses x = Check.of(Check.houses(purses) + "pays=own-100;shared alike 1;");
         x.run(1);
         for (int i = 0; i < pays.length; i++) due("each of " + pays.length, x.house(i, 0), 100 + each);
         due("left of " + each + " each", x.count(5), left);
@@ -286,7 +286,7 @@ final class EdgesOfEveningTest {
     }
 
     private static void whatIsLeftStays() {
-        RingPurses x = Check.of(houses(102, 102, 101) + "pays=own-100;shared alike 1;");
+        RingPurses x = Check.of(Check.houses(102, 102, 101) + "pays=own-100;shared alike 1;");
         x.run(1);
         due("2 are left", x.count(5), 2);
         x.hide(1, 1);
@@ -304,7 +304,7 @@ final class EdgesOfEveningTest {
             purses[i] = 100 + pays[i];
             all += pays[i];
         }
-        RingPurses x = Check.of(houses(purses) + "pays=own-100;shared most 1;");
+        RingPurses x = Check.of(Check.houses(purses) + "pays=own-100;shared most 1;");
         x.run(1);
         for (int i = 0; i < pays.length; i++) due("most to " + whom + ": " + i, x.house(i, 0), i == whom ? 100 + all : 100);
         due("nothing is left", x.count(5), 0);
@@ -324,14 +324,14 @@ final class EdgesOfEveningTest {
         mostIs(9, 1, 1, 1, 1, 1, 1, 1, 1, 1, 2);
         mostIs(0, 1, 1, 1, 1, 1, 1, 1, 1, 1, 1);
         mostIs(8, 0, 0, 0, 0, 0, 0, 0, 0, 1, 1);
-        RingPurses x = Check.of(houses(0, 5) + "pays=0;shared most 2;");
+        RingPurses x = Check.of(Check.houses(0, 5) + "pays=0;shared most 2;");
         x.run(2);
         due("none paid: it is shared all the same", x.count(8), 1);
     }
 
     private static void whoPaidMostSinceItWasShared() {
         for (int given = 4; given <= 6; given++) {
-            RingPurses x = Check.of(houses(105, 100, 100) + "pays=own-100;shared most 2;");
+            RingPurses x = Check.of(Check.houses(105, 100, 100) + "pays=own-100;shared most 2;");
             x.run(1);
             x.give(2, 1, given);
             due("paid since", x.house(0, 6), 5);
@@ -339,7 +339,22 @@ final class EdgesOfEveningTest {
             due("behind 5 and " + given + ": first", x.house(0, 0), given <= 5 ? 105 + given : 100);
             due("second", x.house(1, 0), given <= 5 ? 100 : 105 + given);
         }
-        RingPurses x = Check.of(houses(100, 4) + "pays=own/2;shared most 1;");
+        for (int given = 4; given <= 6; given++) {
+            RingPurses x = Check.of(Check.houses(100, 105, 100) + "pays=own-100;shared most 2;");
+            x.run(1);
+            x.give(2, 0, given);
+            x.run(1);
+            due("behind " + given + " later and 5: first", x.house(0, 0), given < 5 ? 100 : 105 + given);
+            due("second", x.house(1, 0), given < 5 ? 105 + given : 100);
+        }
+        for (int given = 1; given <= 3; given++) {
+            RingPurses x = Check.of(Check.houses(105, 103, 100) + "pays=own-100;shared most 2;");
+            x.run(1);
+            x.give(2, 1, given);
+            x.run(1);
+            due("behind 5, and 3 and " + given + ": second", x.house(1, 0), given <= 2 ? 100 : 108 + given);
+        }
+        RingPurses x = Check.of(Check.houses(100, 4) + "pays=own/2;shared most 1;");
         x.run(1);
         purses("the first paid 50", x, 102, 2);
         due("it is shared", x.house(0, 6) + x.house(1, 6), 0);
@@ -350,7 +365,7 @@ final class EdgesOfEveningTest {
         int[] ten = {100, 100, 100, 100, 100, 100, 100, 100, 100, 100};
         for (int rich = 0; rich < 10; rich++) {
             ten[rich] = 150;
-            x = Check.of(houses(ten) + "pays=own-100;shared alike 1;");
+            x = Check.of(Check.houses(ten) + "pays=own-100;shared alike 1;");
             x.run(1);
             for (int i = 0; i < 10; i++) {
                 due("what " + i + " paid since", x.house(i, 6), 0);
@@ -362,17 +377,17 @@ final class EdgesOfEveningTest {
 
     /** "round: all to the HOUSE with the number of times it was shared ahead, its rest by HOUSES". */
     private static void roundAndRound() {
-        RingPurses x = Check.of(houses(50, 50, 50) + "pays=1;shared round 1;");
+        RingPurses x = Check.of(Check.houses(50, 50, 50) + "pays=1;shared round 1;");
         int[][] want = {{52, 49, 49}, {51, 51, 48}, {50, 50, 50}, {52, 49, 49}, {51, 51, 48}, {50, 50, 50}, {52, 49, 49}};
         for (int[] purses : want) {
             x.run(1);
             purses("round", x, purses);
             due("nothing is left", x.count(5), 0);
         }
-        x = Check.of(houses(50) + "pays=1;shared round 1;");
+        x = Check.of(Check.houses(50) + "pays=1;shared round 1;");
         for (int i = 0; i < 3; i++) x.run(1);
         purses("round of one", x, 50);
-        x = Check.of(houses(50, 50, 50, 50, 50, 50, 50, 50, 50, 50) + "pays=if day<9 then 0 else 1;shared round 1;");
+        x = Check.of(Check.houses(50, 50, 50, 50, 50, 50, 50, 50, 50, 50) + "pays=if day<9 then 0 else 1;shared round 1;");
         x.run(10);
         due("the tenth time", x.house(9, 0), 59);
         x.run(1);
@@ -380,7 +395,7 @@ final class EdgesOfEveningTest {
     }
 
     private static void roundByTheHousesThen() {
-        RingPurses x = Check.of(houses(50, 50, 50) + "pays=1;shared round 1;");
+        RingPurses x = Check.of(Check.houses(50, 50, 50) + "pays=1;shared round 1;");
         x.run(1);
         x.burn(2);
         x.run(1);
@@ -397,7 +412,7 @@ final class EdgesOfEveningTest {
     /** "Without HOUSES it stays." */
     private static void withoutHouses() {
         for (String how : new String[] {"alike", "most", "round"}) {
-            RingPurses x = Check.of(houses(5) + "pays=own;shared " + how + " 2;");
+            RingPurses x = Check.of(Check.houses(5) + "pays=own;shared " + how + " 2;");
             x.run(1);
             x.burn(0);
             due("an evening at which it would be shared", x.run(1), 2);
@@ -418,7 +433,7 @@ final class EdgesOfEveningTest {
 
     /** "day: the evening's number, from 0 on". */
     private static void days() {
-        RingPurses x = Check.of(houses(999) + "pays=day;earns=day;shared alike 1;");
+        RingPurses x = Check.of(Check.houses(999) + "pays=day;earns=day;shared alike 1;");
         due("day 0", x.house(0, 4), 0);
         x.run(1);
         due("day 1", x.house(0, 4), 1);
@@ -502,7 +517,7 @@ final class EdgesOfEveningTest {
         tells("if 2<2 then 5 else 9/0", 0);
         tells("if 2<2 then 5 else if 9/0<1 then 6 else 7", 0);
         tells("if 1<2 then 5 else if 9/0<1 then 6 else 7", 5);
-        RingPurses x = Check.of(houses(5) + "pays=0;earns=9/day;");
+        RingPurses x = Check.of(Check.houses(5) + "pays=0;earns=9/day;");
         x.run(1);
         due("EARNS divided by 0", x.house(0, 0), 5);
         x.run(1);
@@ -528,7 +543,7 @@ final class EdgesOfEveningTest {
         lotsAre(9998, 1, 81, 99, 91, 42, 76, 84, 4, 53, 79, 12);
         lotsAre(9999, 0, 18, 7, 55, 93, 34, 42, 22, 9, 19, 62);
         lotsAre(9999, 1, 87, 13, 21, 26, 0, 73, 12, 51, 97, 40);
-        RingPurses x = Check.of(houses(0, 0, 0) + "pays=0;earns=lot;seed 9999;");
+        RingPurses x = Check.of(Check.houses(0, 0, 0) + "pays=0;earns=lot;seed 9999;");
         x.run(1);
         purses("lots earned", x, 18, 7, 55);
         x.run(1);
@@ -537,7 +552,7 @@ final class EdgesOfEveningTest {
 
     /** "Of a HOUSE: what 0 ... 6 ... NONE for others." */
     private static void ofAHouse() {
-        RingPurses x = Check.of(houses(10, 4, 7, 1) + "shared alike 2;");
+        RingPurses x = Check.of(Check.houses(10, 4, 7, 1) + "shared alike 2;");
         for (int what = 5; what <= 6; what++) due("ahead of the first evening", x.house(0, what), 0);
         x.run(1);
         x.hide(1, 1);
@@ -564,7 +579,7 @@ final class EdgesOfEveningTest {
 
     /** "n evenings (0 .. 300; 0 is no thing done) go by: which it is; NONE, and nothing happens: no such n." */
     private static void runs() {
-        RingPurses x = Check.of(houses(10, 4, 7, 1));
+        RingPurses x = Check.of(Check.houses(10, 4, 7, 1));
         due("run(0)", x.run(0), 0);
         due("run(0) is no thing done", x.count(10), 0);
         due("run(1)", x.run(1), 1);
@@ -578,8 +593,8 @@ final class EdgesOfEveningTest {
         due("run(300)", x.run(300), 600);
         due("each is one thing done", x.count(10), 3);
         due("run(0) later", x.run(0), 600);
-        RingPurses one = Check.of(houses(10, 4, 7, 1) + "shared most 3;pays=gap+day/9;earns=2;");
-        RingPurses many = Check.of(houses(10, 4, 7, 1) + "shared most 3;pays=gap+day/9;earns=2;");
+        RingPurses one = Check.of(Check.houses(10, 4, 7, 1) + "shared most 3;pays=gap+day/9;earns=2;");
+        RingPurses many = Check.of(Check.houses(10, 4, 7, 1) + "shared most 3;pays=gap+day/9;earns=2;");
         one.run(300);
         for (int i = 0; i < 300; i++) many.run(1);
         for (int i = 0; i < 4; i++) {
@@ -589,7 +604,7 @@ final class EdgesOfEveningTest {
 
     /** "An object is used for at most 512 calls": what can be earned and be in the POT then is still told rightly. */
     private static void theLongestUse() {
-        String rich = houses(9999, 9999, 9999, 9999, 9999, 9999, 9999, 9999, 9999, 9999) + "earns=999;";
+        String rich = Check.houses(9999, 9999, 9999, 9999, 9999, 9999, 9999, 9999, 9999, 9999) + "earns=999;";
         int calls = (rich.length() + 7 + 19) / 20 + 2;
         RingPurses x = Check.of(rich + "pays=0;");
         for (int i = calls; i < 511; i++) x.run(300);
@@ -606,7 +621,7 @@ final class EdgesOfEveningTest {
         for (int hidden : new int[] {0, 3, 10}) {
             int shown = 10 - hidden;
             for (int x : new int[] {LEAST, -1, 0, 1, shown - 1, shown, shown + 1, 10, 11, GREATEST}) {
-                RingPurses r = Check.of(houses(10, 4, 0));
+                RingPurses r = Check.of(Check.houses(10, 4, 0));
                 r.hide(0, hidden);
                 boolean fine = x >= 0 && x <= shown;
                 due("give(0, 2, " + x + ") of " + shown, r.give(0, 2, x), fine);
@@ -617,7 +632,7 @@ final class EdgesOfEveningTest {
         }
         for (int from : new int[] {LEAST, -1, 0, 1, 2, 3, 10, GREATEST}) {
             for (int to : new int[] {LEAST, -1, 0, 1, 2, 3, 10, GREATEST}) {
-                RingPurses r = Check.of(houses(10, 4, 5));
+                RingPurses r = Check.of(Check.houses(10, 4, 5));
                 boolean fine = from >= 0 && from <= 2 && to >= 0 && to <= 2 && from != to;
                 due("give(" + from + ", " + to + ", 1)", r.give(from, to, 1), fine);
                 due("give(" + from + ", " + to + ", 0)", r.give(from, to, 0), fine);
@@ -635,7 +650,7 @@ final class EdgesOfEveningTest {
     private static void hiding() {
         for (int before : new int[] {0, 4, 10}) {
             for (int x : new int[] {LEAST, -1, 0, 1, 9, 10, 11, GREATEST}) {
-                RingPurses r = Check.of(houses(3, 10));
+                RingPurses r = Check.of(Check.houses(3, 10));
                 r.hide(1, before);
                 boolean fine = x >= 0 && x <= 10;
                 due("hide(1, " + x + ")", r.hide(1, x), fine);
@@ -646,19 +661,19 @@ final class EdgesOfEveningTest {
             }
         }
         for (int house : new int[] {LEAST, -1, 2, 3, 10, GREATEST}) {
-            RingPurses r = Check.of(houses(3, 10));
+            RingPurses r = Check.of(Check.houses(3, 10));
             due("hide(" + house + ", 0)", r.hide(house, 0), false);
             due("things done", r.count(10), 0);
         }
-        due("hide of a purse of 0", Check.of(houses(0)).hide(0, 0), true);
-        due("hide of more", Check.of(houses(0)).hide(0, 1), false);
+        due("hide of a purse of 0", Check.of(Check.houses(0)).hide(0, 0), true);
+        due("hide of more", Check.of(Check.houses(0)).hide(0, 1), false);
         due("without houses", new RingPurses().hide(0, 0), false);
     }
 
     /** "TAKEN: how much; NONE, and nothing happens: no such HOUSE." */
     private static void taking() {
         for (int house : new int[] {LEAST, -1, 0, 1, 2, 3, 10, GREATEST}) {
-            RingPurses r = Check.of(houses(5, 5, 5) + "pays=2;");
+            RingPurses r = Check.of(Check.houses(5, 5, 5) + "pays=2;");
             r.run(2);
             boolean fine = house >= 0 && house <= 2;
             due("grab(" + house + ")", r.grab(house), fine ? 12 : -1);
@@ -671,7 +686,10 @@ final class EdgesOfEveningTest {
         due("without houses", new RingPurses().grab(0), -1);
     }
 
-    /** "BUILT ahead of a HOUSE (how many there are: behind all), with a PURSE (0 .. 9999) ...; NONE, and nothing happens: 10 are there, no such ones." */
+    /**
+     * "BUILT ahead of a HOUSE (how many there are: behind all), with a PURSE (0 .. 9999) ...; NONE, and nothing happens:
+     * 10 are there, no such ones."
+     */
     private static void building() {
         for (int n = 0; n <= 10; n++) {
             for (int at : new int[] {LEAST, -1, 0, 1, n - 1, n, n + 1, 10, 11, GREATEST}) {
@@ -693,7 +711,7 @@ final class EdgesOfEveningTest {
             due("its purse", r.house(3, 0), fine ? purse : -1);
             due("things done", r.count(10), fine ? 1 : 0);
         }
-        RingPurses r = Check.of(houses(50, 50) + "pays=own/2;");
+        RingPurses r = Check.of(Check.houses(50, 50) + "pays=own/2;");
         r.run(1);
         r.hide(1, 9);
         r.build(1, 6);
@@ -717,7 +735,7 @@ final class EdgesOfEveningTest {
                 for (int i = 0; i < r.count(0); i++) due("purse of " + i, r.house(i, 0), fine && i >= house ? 1002 + i : 1001 + i);
             }
         }
-        RingPurses r = Check.of(houses(9, 6));
+        RingPurses r = Check.of(Check.houses(9, 6));
         r.hide(0, 9);
         r.hide(1, 2);
         due("burn of what is hidden", r.burn(0), 9);
@@ -727,7 +745,7 @@ final class EdgesOfEveningTest {
     }
 
     private static RingPurses tenThatPaid() {
-        RingPurses r = Check.of(houses(200, 202, 204, 206, 208, 210, 212, 214, 216, 218) + "pays=own/2;");
+        RingPurses r = Check.of(Check.houses(200, 202, 204, 206, 208, 210, 212, 214, 216, 218) + "pays=own/2;");
         r.run(1);
         r.run(1);
         for (int i = 0; i < 10; i++) r.hide(i, i);
@@ -800,7 +818,7 @@ final class EdgesOfEveningTest {
     private static void joiningBoth() {
         int[][] want = {{20 + 80, 3 + 9, 20 + 80, 40 + 160}, {80 + 40, 9 + 4, 80 + 40, 160 + 80}, {40 + 20, 4 + 3, 40 + 20, 80 + 40}};
         for (int house = 0; house < 3; house++) {
-            RingPurses r = Check.of(houses(60, 240, 120) + "pays=if day<1 then own/3 else own/2;");
+            RingPurses r = Check.of(Check.houses(60, 240, 120) + "pays=if day<1 then own/3 else own/2;");
             r.run(2);
             r.hide(0, 3);
             r.hide(1, 9);
@@ -810,7 +828,7 @@ final class EdgesOfEveningTest {
             int[] what = {0, 1, 5, 6};
             for (int i = 0; i < 4; i++) due("joined " + house + ": " + what[i], r.house(place, what[i]), want[house][i]);
         }
-        RingPurses r = Check.of(houses(5, 4) + "pays=own;");
+        RingPurses r = Check.of(Check.houses(5, 4) + "pays=own;");
         r.join(1);
         due("left alone it sees itself", r.house(0, 4), 9);
     }
@@ -818,7 +836,7 @@ final class EdgesOfEveningTest {
     /** "The last thing done (all but questions) is undone: true; false: there is none". */
     private static void undoing() {
         due("undo of a new object", new RingPurses().undo(), false);
-        RingPurses x = Check.of(houses(10, 4, 7, 1));
+        RingPurses x = Check.of(Check.houses(10, 4, 7, 1));
         due("undo behind a text", x.undo(), false);
         x.run(1);
         String one = Whole.now(x);
@@ -844,7 +862,7 @@ final class EdgesOfEveningTest {
     /** "(the last 30 can be)". */
     private static void undoingTheLast30() {
         for (int done : new int[] {0, 1, 29, 30, 31, 32, 61, 90}) {
-            RingPurses x = Check.of(houses(9000) + "pays=1;");
+            RingPurses x = Check.of(Check.houses(9000) + "pays=1;");
             for (int i = 0; i < done; i++) x.run(1);
             int can = Math.min(done, 30);
             due("things that can be undone behind " + done, x.count(10), can);
@@ -860,7 +878,7 @@ final class EdgesOfEveningTest {
     }
 
     private static void undoingAroundTheEnd() {
-        RingPurses x = Check.of(houses(100));
+        RingPurses x = Check.of(Check.houses(100));
         for (int i = 1; i <= 40; i++) x.hide(0, i);
         for (int i = 0; i < 10; i++) x.undo();
         due("20 are left", x.count(10), 20);

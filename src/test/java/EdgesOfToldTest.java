@@ -41,14 +41,8 @@ final class EdgesOfToldTest {
         Check.due(call, got, want);
     }
 
-    private static String houses(int... purses) {
-        StringBuilder s = new StringBuilder();
-        for (int i = 0; i < purses.length; i++) s.append("house ").append((char) ('a' + i)).append(' ').append(purses[i]).append(';');
-        return s.toString();
-    }
-
     private static RingPurses zeros(int n, String rest) {
-        return Check.of(houses(new int[n]) + rest);
+        return Check.of(Check.houses(new int[n]) + rest);
     }
 
     // ---- what is TOLD
@@ -190,7 +184,7 @@ final class EdgesOfToldTest {
         due("of HOUSES as there are now", x.fits(20, 0), -2);
         x.burn(0);
         due("of HOUSES as there are now", x.fits(20, 0), 194481);
-        x = Check.of(houses(9999, 9999, 9999, 9999, 9999));
+        x = Check.of(Check.houses(9999, 9999, 9999, 9999, 9999));
         due("too many, though none would do", x.ago(20), -2);
     }
 
@@ -209,7 +203,7 @@ final class EdgesOfToldTest {
 
     /** "nothing hidden, the POT and the evening as now", "EARNS not looked at". */
     private static void fitAsAllIsNow() {
-        RingPurses x = Check.of(houses(20, 20) + "pays=if day<1 then 3 else own-pot+day;earns=9;shared alike 30;");
+        RingPurses x = Check.of(Check.houses(20, 20) + "pays=if day<1 then 3 else own-pot+day;earns=9;shared alike 30;");
         x.tell(0, 3);
         x.tell(0, 4);
         due("evening 0: 3 of 3 and more", x.fits(9, 1), 7 * 10);
@@ -242,7 +236,7 @@ final class EdgesOfToldTest {
             for (int i = 0; i < n; i++) {
                 int[] purses = new int[n];
                 java.util.Arrays.fill(purses, 30);
-                RingPurses x = Check.of(houses(purses) + "pays=own;earns=7;");
+                RingPurses x = Check.of(Check.houses(purses) + "pays=own;earns=7;");
                 for (int j = 0; j < n; j++) x.hide(j, 30);
                 x.tell(i, 2);
                 int rows = 1;
@@ -288,6 +282,10 @@ final class EdgesOfToldTest {
         due("by turns", x.fits(2, 2), 1);
         due("by turns: 0 has", x.span(2, 2, 0), 202);
         due("by turns: 1 has", x.span(2, 2, 1), 101);
+        fitsOfOne("pays=left;", 9, 9, 9);
+        fitsOfOne("turns;pays=left;", 9, 5, 8);
+        fitsOfOne("pays=right;", 9, 9, 9);
+        fitsOfOne("turns;pays=right;", 9, 9, 5);
         x = zeros(3, "turns;pays=pot;");
         x.tell(2, 0);
         due("an empty POT stays", x.fits(1, 1), 8);
@@ -302,6 +300,15 @@ final class EdgesOfToldTest {
         x.tell(0, 3);
         x.tell(1, 0);
         due("0 has 3, the others whatever", x.fits(3, 4), 16);
+    }
+
+    /** Of three HOUSES with 0 to 2: of which just one is KNOWN to pay 1. */
+    private static void fitsOfOne(String rules, int... want) {
+        for (int i = 0; i < 3; i++) {
+            RingPurses x = zeros(3, rules);
+            x.tell(i, 1);
+            due("1 paid by " + i + " of " + rules, x.fits(2, 1), want[i]);
+        }
     }
 
     /** "100 * the least + the greatest; -2: too many, none; NONE: no such ones." */
@@ -341,7 +348,7 @@ final class EdgesOfToldTest {
 
     /** "AGO: how many rows; -2: too many; NONE: no such most." */
     private static void agoBounds() {
-        RingPurses x = Check.of(houses(3, 3) + "pays=0;");
+        RingPurses x = Check.of(Check.houses(3, 3) + "pays=0;");
         for (int most : new int[] {LEAST, -2, -1, 0, 21, 22, GREATEST}) due("ago(" + most + ")", x.ago(most), -1);
         for (int most : new int[] {1, 2}) due("ago(" + most + ")", x.ago(most), 0);
         for (int most : new int[] {3, 4, 19, 20}) due("ago(" + most + ")", x.ago(most), 1);
@@ -351,45 +358,55 @@ final class EdgesOfToldTest {
 
     /** "leaves just the PURSES that are now". */
     private static void agoOfPurses() {
-        RingPurses x = Check.of(houses(0) + "pays=own/3;");
+        RingPurses x = Check.of(Check.houses(0) + "pays=own/3;");
         // 0 stays 0; 1 and 2 pay nothing
         due("of 0", x.ago(20), 1);
-        x = Check.of(houses(14) + "pays=own/3;");
+        x = Check.of(Check.houses(14) + "pays=own/3;");
         // 20 leaves 14
         due("of 14 to 19", x.ago(19), 0);
         due("of 14 to 20", x.ago(20), 1);
-        x = Check.of(houses(20) + "pays=0;");
+        x = Check.of(Check.houses(20) + "pays=0;");
         due("of 20 to 19", x.ago(19), 0);
         due("of 20 to 20", x.ago(20), 1);
-        x = Check.of(houses(21) + "pays=0;");
+        x = Check.of(Check.houses(21) + "pays=0;");
         due("of 21 to 20", x.ago(20), 0);
-        x = Check.of(houses(0, 0, 0) + "pays=own;");
+        x = Check.of(Check.houses(0, 0, 0) + "pays=own;");
         due("of nothing left", x.ago(20), 9261);
-        x = Check.of(houses(0, 0, 1) + "pays=own;");
+        x = Check.of(Check.houses(0, 0, 1) + "pays=own;");
         due("of one left", x.ago(20), 0);
-        x = Check.of(houses(0, 0) + "pays=left;");
+        x = Check.of(Check.houses(0, 0) + "pays=left;");
         // both have as much
         due("at once", x.ago(20), 21);
-        x = Check.of("turns;" + houses(0, 0) + "pays=left;");
+        x = Check.of("turns;" + Check.houses(0, 0) + "pays=left;");
         // what 0 has it pays first, and then 1 keeps all: but for none
         due("by turns", x.ago(20), 1);
-        x = Check.of("turns;" + houses(0, 1) + "pays=left;");
+        x = Check.of("turns;" + Check.houses(0, 1) + "pays=left;");
         due("by turns, of 1", x.ago(20), 2);
-        x = Check.of("turns;" + houses(0, 3, 5) + "pays=if pot<1 then own else 0;");
+        x = Check.of("turns;" + Check.houses(0, 3, 5) + "pays=if pot<1 then own else 0;");
         // 0 had 1 .. 20; or it had nothing, and 1 would have paid all
         due("by turns, the POT as now for each row", x.ago(20), 20);
+        int[][] purses = {{0, 1, 0}, {1, 0, 0}, {0, 0, 1}, {0, 0, 0}};
+        int[] atOnce = {4, 4, 4, 3};
+        int[] left = {3, 2, 2, 1};
+        int[] right = {2, 3, 3, 1};
+        for (int i = 0; i < 4; i++) {
+            due("left at once: " + i, Check.of(Check.houses(purses[i]) + "pays=left;").ago(2), atOnce[i]);
+            due("right at once: " + i, Check.of(Check.houses(purses[i]) + "pays=right;").ago(2), atOnce[i]);
+            due("left by turns: " + i, Check.of(Check.houses(purses[i]) + "turns;pays=left;").ago(2), left[i]);
+            due("right by turns: " + i, Check.of(Check.houses(purses[i]) + "turns;pays=right;").ago(2), right[i]);
+        }
     }
 
     /** The same to the last one of ten, and in whatever order they are asked. */
     private static void agoOfTen() {
-        RingPurses x = Check.of(houses(0, 0, 0, 0, 0, 0, 0, 0, 0, 1) + "pays=own/2;");
+        RingPurses x = Check.of(Check.houses(0, 0, 0, 0, 0, 0, 0, 0, 0, 1) + "pays=own/2;");
         due("to 1", x.ago(1), 1);
         due("1 of 2 and 1 of 1", x.ago(2), 2);
         due("all rows", x.fits(2, 0), 59049);
         due("again", x.ago(2), 2);
-        x = Check.of(houses(0, 0, 0, 0, 0, 0, 0, 0, 0, 1) + "pays=own;");
+        x = Check.of(Check.houses(0, 0, 0, 0, 0, 0, 0, 0, 0, 1) + "pays=own;");
         due("none keeps 1", x.ago(2), 0);
-        x = Check.of(houses(0, 0, 0, 0, 0, 0, 0, 0, 0, 2) + "pays=0;");
+        x = Check.of(Check.houses(0, 0, 0, 0, 0, 0, 0, 0, 0, 2) + "pays=0;");
         due("2 is more than 1", x.ago(1), 0);
         due("2 is 2", x.ago(2), 1);
         due("all rows", x.fits(2, 0), 59049);
@@ -399,20 +416,20 @@ final class EdgesOfToldTest {
         for (int i = 0; i < 10; i++) {
             int[] purses = new int[10];
             purses[i] = 1;
-            due("the one that has 1 is " + i, Check.of(houses(purses) + "pays=own/2;").ago(2), 2);
+            due("the one that has 1 is " + i, Check.of(Check.houses(purses) + "pays=own/2;").ago(2), 2);
         }
     }
 
     /** "not one at which the POT is shared, EARNS not looked at, nothing hidden, the POT and the evening as now". */
     private static void agoAsAllIsNow() {
-        RingPurses x = Check.of(houses(2) + "pays=own/2;earns=3;shared alike 1;");
+        RingPurses x = Check.of(Check.houses(2) + "pays=own/2;earns=3;shared alike 1;");
         int[] want = {0, 0, 1, 2, 2};
         for (int most = 1; most <= 5; most++) due("ago(" + most + ")", x.ago(most), want[most - 1]);
         x.hide(0, 2);
         due("what is hidden now does not matter", x.ago(5), 2);
         x.run(1);
         due("nothing has happened", x.house(0, 0), 5);
-        x = Check.of(houses(9, 9) + "pays=if day<2 then 3 else pot;shared alike 30;");
+        x = Check.of(Check.houses(9, 9) + "pays=if day<2 then 3 else pot;shared alike 30;");
         due("the evening as now", x.ago(12), 1);
         due("to 11", x.ago(11), 0);
         x.run(2);
@@ -428,7 +445,7 @@ final class EdgesOfToldTest {
 
     /** "held in a SLOT (0 .. 2): true; false: no such one." */
     private static void holding() {
-        for (RingPurses x : new RingPurses[] {new RingPurses(), Check.of(houses(4, 5))}) {
+        for (RingPurses x : new RingPurses[] {new RingPurses(), Check.of(Check.houses(4, 5))}) {
             for (int slot : new int[] {LEAST, -2, -1, 3, 4, GREATEST}) {
                 due("hold(" + slot + ")", x.hold(slot), false);
                 due("restore(" + slot + ")", x.restore(slot), false);
@@ -447,7 +464,7 @@ final class EdgesOfToldTest {
             due("SLOTS behind a text", x.count(12), 0);
             for (int slot = 0; slot <= 2; slot++) due("restore(" + slot + ") behind a text", x.restore(slot), false);
         }
-        RingPurses x = Check.of(houses(4, 5));
+        RingPurses x = Check.of(Check.houses(4, 5));
         x.hold(2);
         due("just one", x.count(12), 1);
         due("restore(0)", x.restore(0), false);
@@ -457,7 +474,7 @@ final class EdgesOfToldTest {
 
     /** "They go on from what a SLOT holds (that stays there; nothing can be undone then)". */
     private static void goingOn() {
-        RingPurses x = Check.of(houses(90, 5, 7));
+        RingPurses x = Check.of(Check.houses(90, 5, 7));
         for (int slot = 0; slot <= 2; slot++) {
             x.run(1);
             x.hold(slot);
@@ -487,7 +504,7 @@ final class EdgesOfToldTest {
 
     /** "HOUSES, what they have, hide and paid, the POT, the evening are held". */
     private static void whatASlotHolds() {
-        RingPurses x = Check.of(houses(90, 5, 7) + "pays=gap/2+1;earns=2;shared round 2;");
+        RingPurses x = Check.of(Check.houses(90, 5, 7) + "pays=gap/2+1;earns=2;shared round 2;");
         x.run(3);
         x.hide(1, 2);
         String held = Whole.now(x).replaceFirst("( \\d+){4}; house 0", "; house 0");
@@ -501,7 +518,7 @@ final class EdgesOfToldTest {
         x.restore(0);
         due("all that HOUSES have is back", Whole.now(x).replaceFirst("( \\d+){4}; house 0", "; house 0").equals(held), true);
         due("what was TOLD is not held", x.count(11), 1);
-        RingPurses none = Check.of(houses(4));
+        RingPurses none = Check.of(Check.houses(4));
         none.hold(1);
         none.burn(0);
         none.hold(0);
@@ -514,7 +531,7 @@ final class EdgesOfToldTest {
 
     /** "NONE for others." */
     private static void counts() {
-        RingPurses x = Check.of("street;turns;" + houses(9, 2, 5) + "shared round 2;pays=1;");
+        RingPurses x = Check.of("street;turns;" + Check.houses(9, 2, 5) + "shared round 2;pays=1;");
         x.run(5);
         x.hide(0, 1);
         x.tell(1, 1);
@@ -528,7 +545,7 @@ final class EdgesOfToldTest {
 
     /** "Where NONE and -2 could both be told, it is NONE, if it is not told otherwise." */
     private static void noneAheadOfMinusTwo() {
-        RingPurses x = Check.of(houses(9, 9, 9, 9, 9, 9, 9, 9, 9, 0) + "pays=0;earns=1;");
+        RingPurses x = Check.of(Check.houses(9, 9, 9, 9, 9, 9, 9, 9, 9, 0) + "pays=0;earns=1;");
         due("becomes of none", x.becomes(0), -2);
         due("becomes of others", x.becomes(2), -1);
         due("even not", x.even(8, 0), -2);
@@ -554,7 +571,7 @@ final class EdgesOfToldTest {
         due("best over 31", x.best(0, 1, 31, 1), -1);
         due("free, none needed", x.free(0, 1), -2);
         due("free, what 2", x.free(0, 2), -1);
-        RingPurses alone = Check.of(houses(5) + "pays=1;");
+        RingPurses alone = Check.of(Check.houses(5) + "pays=1;");
         due("free, none", alone.free(0, 0), -2);
         due("free, none of no HOUSE", alone.free(1, 0), -1);
         RingPurses never = zeros(1, "pays=own;");
