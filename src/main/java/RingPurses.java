@@ -141,7 +141,7 @@ public final class RingPurses {
             case 3: return rules.gapOf(ring, house);
             case 4: return rules.wanted(ring, house);
             case 5: return ring.paid[house];
-            case 6: return ring.since[house];
+            case 6: return (int) ring.since[house];
             default: return NONE;
         }
     }
@@ -837,7 +837,8 @@ public final class RingPurses {
         private final int[] purse = new int[MOST_HOUSES];
         private final int[] hidden = new int[MOST_HOUSES];
         private final int[] paid = new int[MOST_HOUSES];
-        private final int[] since = new int[MOST_HOUSES];
+        // Longs: what was paid can be taken and paid again, so that in all it may be more than an int holds.
+        private final long[] since = new long[MOST_HOUSES];
         private int houses;
         private int pot;
         private int evening;

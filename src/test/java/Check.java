@@ -17,6 +17,13 @@ final class Check {
         due(call, got ? 1 : 0, want ? 1 : 0);
     }
 
+    static void due(String call, String got, String want) {
+        asked++;
+        if (got.equals(want)) return;
+        wrong++;
+        System.out.println(call + " answered " + got + ", due is " + want);
+    }
+
     static void fail(String what) {
         asked++;
         wrong++;

@@ -21,6 +21,7 @@ final class EdgesOfEveningTest {
         whatIsLeftStays();
         whoPaidMost();
         whoPaidMostSinceItWasShared();
+        whoPaidMoreThanAnIntHolds();
         roundAndRound();
         roundByTheHousesThen();
         withoutHouses();
@@ -327,6 +328,52 @@ final class EdgesOfEveningTest {
         RingPurses x = Check.of(Check.houses(0, 5) + "pays=0;shared most 2;");
         x.run(2);
         due("none paid: it is shared all the same", x.count(8), 1);
+    }
+
+    /** What was paid can be TAKEN and paid again: here more than 2^31 since the POT was shared, an evening ahead of the next time. */
+    private static RingPurses paidAgainAndAgain(int payer) {
+        String text = Check.houses(0, 0, 0, 0, 0, 0, 0, 0, 0, 0)
+            + "pays=if day<9000 then 0 else own;earns=999;shared most 30;";
+        RingPurses x = Check.of(text);
+        for (int i = 0; i < 30; i++) x.run(300);
+        x.run(1);
+        long paid = x.house(payer, 5);
+        for (int i = 0; i < 28; i++) {
+            x.grab(payer);
+            x.run(1);
+            paid += x.house(payer, 5);
+        }
+        due("evening", x.count(6), 9029);
+        due("paid more than 2^31", paid > 1L << 31, true);
+        return x;
+    }
+
+    private static void getsAll(String when, RingPurses x, int payer) {
+        due(when + ": the evening it is shared", x.run(1), 9030);
+        due(when + ": nothing is left", x.count(5), 0);
+        due(when + ": all to " + payer, x.house(payer, 0), x.count(7));
+    }
+
+    /** "most: all to the HOUSE that paid most since the POT was shared", however much that is. */
+    private static void whoPaidMoreThanAnIntHolds() {
+        for (int payer = 0; payer < 10; payer += 3) getsAll("paid again and again", paidAgainAndAgain(payer), payer);
+        RingPurses x = paidAgainAndAgain(4);
+        x.hold(1);
+        x.grab(2);
+        x.restore(1);
+        getsAll("held", x, 4);
+        due("undo", x.undo(), true);
+        getsAll("undone", x, 4);
+        x = paidAgainAndAgain(4);
+        x.burn(1);
+        getsAll("one ahead is burnt", x, 3);
+        x = paidAgainAndAgain(4);
+        x.burn(9);
+        x.build(2, 0);
+        getsAll("one is built ahead", x, 5);
+        x = paidAgainAndAgain(4);
+        x.join(3);
+        getsAll("joined with the one ahead", x, 3);
     }
 
     private static void whoPaidMostSinceItWasShared() {

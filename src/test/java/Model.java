@@ -81,7 +81,7 @@ final class Model {
         int purse;
         int hidden;
         int paid;
-        int since;
+        long since;
 
         House(int purse) {
             this.purse = purse;
@@ -454,7 +454,7 @@ final class Model {
             case 3: return seen(now, i).get("gap");
             case 4: return wanted(now, i);
             case 5: return h.paid;
-            case 6: return h.since;
+            case 6: return (int) h.since;
             default: return -1;
         }
     }
